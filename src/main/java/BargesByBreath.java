@@ -161,7 +161,7 @@ public final class BargesByBreath {
         past.draft(now);
         now.went = 0;
         now.blown = 0;
-        int answer = now.arrivedAfter(n);
+        int answer = now.pass(n);
         if (n > 0) {
             past.enterDraft();
         }
@@ -222,7 +222,7 @@ public final class BargesByBreath {
         int first = script.takeDigit();
         switch (kind) {
             case 'h':
-                return now.arrivedAfter(first);
+                return now.pass(first);
             case 'c':
                 return now.changeOver(first, script.takeDigit());
             case 'w':
@@ -437,7 +437,7 @@ public final class BargesByBreath {
             if (!now.awake[p]) {
                 trial.copy(now);
                 trial.awake[p] = true;
-                int arrived = trial.arrivedAfter(n);
+                int arrived = trial.pass(n);
                 if (arrived > most) {
                     best = p;
                     most = arrived;
@@ -494,7 +494,7 @@ public final class BargesByBreath {
             for (int b = 0; b < now.barges && best < now.barges; b++) {
                 if (now.boat[p] != b) {
                     tryWith(p, b);
-                    int arrived = trial.arrivedAfter(n);
+                    int arrived = trial.pass(n);
                     if (arrived > best) {
                         best = arrived;
                         told.two(p, b);
@@ -512,7 +512,7 @@ public final class BargesByBreath {
                 if (now.boat[p] != b) {
                     tryWith(passenger, barge);
                     trial.boat[p] = b;
-                    int arrived = trial.arrivedAfter(n);
+                    int arrived = trial.pass(n);
                     if (arrived > best) {
                         best = arrived;
                         told.two(passenger, barge);
@@ -677,7 +677,7 @@ public final class BargesByBreath {
         int former = ahead(LAW_HOURS).arrived();
         trial.copy(now);
         trial.rule = spareRule;
-        int other = trial.arrivedAfter(LAW_HOURS);
+        int other = trial.pass(LAW_HOURS);
         told.two(other, former);
         return other - former;
     }
@@ -1377,14 +1377,16 @@ public final class BargesByBreath {
 
         // -- what is done
 
-        void pass(int hours) {
+        /** How many barges are THERE then. */
+        int pass(int hours) {
             for (int i = 0; i < hours; i++) {
                 if (!passOne() && !rule.usesHour()) {
                     // All later HOURS are like this one.
                     hour += hours - 1 - i;
-                    return;
+                    break;
                 }
             }
+            return arrived();
         }
 
         /** False: nothing was other than ahead of it, but HOUR. */
@@ -1449,11 +1451,6 @@ public final class BargesByBreath {
                 air[p] = left;
             }
             return changed;
-        }
-
-        int arrivedAfter(int hours) {
-            pass(hours);
-            return arrived();
         }
 
         /** How many HOURS till a barge is THERE, -1 if it is in none of the most; all is as it is then. */
