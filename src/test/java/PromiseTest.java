@@ -1,11 +1,5 @@
-import java.util.Arrays;
-import java.util.NoSuchElementException;
-
 /** For each promise of the document: ordinary inputs, its edges and wrong inputs, with answers reckoned by hand. */
-public final class PromiseTest {
-    private static int wrong;
-    private static int checks;
-
+public final class PromiseTest extends Checks {
     public static void main(String[] args) {
         newObject();
         texts();
@@ -37,80 +31,7 @@ public final class PromiseTest {
         keeping();
         counts();
         refusalsKeepTheRow();
-        System.out.println(wrong == 0 ? "all " + checks + " checks hold" : wrong + " checks fail");
-        if (wrong > 0) {
-            System.exit(1);
-        }
-    }
-
-    // ---- helpers
-
-    private static void is(String what, long got, long due) {
-        checks++;
-        if (got != due) {
-            wrong++;
-            System.out.println(what + ": got " + got + ", due is " + due);
-        }
-    }
-
-    private static void is(String what, boolean got, boolean due) {
-        is(what, got ? 1 : 0, due ? 1 : 0);
-    }
-
-    private static void rowIs(String what, BargesByBreath x, long... due) {
-        long[] got = new long[x.count(10)];
-        for (int i = 0; i < got.length; i++) {
-            got[i] = x.row(i);
-        }
-        checks++;
-        if (!Arrays.equals(got, due)) {
-            wrong++;
-            System.out.println(what + ": row " + Arrays.toString(got) + ", due is " + Arrays.toString(due));
-        }
-    }
-
-    private interface Call {
-        long answer();
-    }
-
-    private static void isNone(String what, Call call) {
-        checks++;
-        try {
-            long got = call.answer();
-            wrong++;
-            System.out.println(what + ": got " + got + ", due is NoSuchElementException");
-        } catch (NoSuchElementException e) {
-            // as due
-        }
-    }
-
-    private static BargesByBreath say(BargesByBreath x, String text) {
-        x.end(0);
-        for (int i = 0; i < text.length(); i += 4) {
-            int v = 0;
-            for (int j = i; j < i + 4; j++) {
-                v = v << 8 | (j < text.length() ? text.charAt(j) : 0);
-            }
-            x.sign(v);
-        }
-        is("end() of " + text, x.end(text.length()), true);
-        return x;
-    }
-
-    private static BargesByBreath world(String canal, String barges, String passengers) {
-        BargesByBreath x = new BargesByBreath();
-        is("canal() of " + canal, say(x, canal).canal(), canal.length());
-        is("barges() of " + barges, say(x, barges).barges(), lines(barges));
-        is("passengers() of " + passengers, say(x, passengers).passengers(), lines(passengers));
-        return x;
-    }
-
-    private static int lines(String text) {
-        return text.isEmpty() ? 0 : text.split(";").length;
-    }
-
-    private static String many(String text, int times) {
-        return text.repeat(times);
+        finish();
     }
 
     // ---- promises 1 to 10
