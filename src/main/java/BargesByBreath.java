@@ -549,7 +549,8 @@ public final class BargesByBreath {
         int many = 0;
         int first = -1;
         int most = 0;
-        for (int cell = now.cell[barge] + step; cell >= 0 && cell < water.length; cell += step) {
+        for (int away = 1; away < water.length; away++) {
+            int cell = now.cell[barge] + away * step;
             int lock = water.lockOn(cell);
             most = Math.max(most, lock);
             if (lock > now.hold[barge]) {
@@ -887,13 +888,18 @@ public final class BargesByBreath {
             return cell >= 0 && cell < length;
         }
 
+        // These two look at the cell themselves, not by has(): calls go eight deep at most, and seats() is that far here.
+
         boolean isBend(int cell) {
-            return has(cell) && kinds[cell] == 'b';
+            return cell >= 0 && cell < length && kinds[cell] == 'b';
         }
 
         /** How much a LOCK is of; 0 where there is none. */
         int lockOn(int cell) {
-            return has(cell) && kinds[cell] >= '1' && kinds[cell] <= '9' ? kinds[cell] - '0' : 0;
+            if (cell < 0 || cell >= length || kinds[cell] < '1' || kinds[cell] > '9') {
+                return 0;
+            }
+            return kinds[cell] - '0';
         }
     }
 

@@ -516,6 +516,7 @@ public final class EdgeHoursTest extends Checks {
             int before = x.count(3);
             tells("16 h" + n, x, say(x, "h" + n).journey(), 1, 0, before + n);
         }
+        is("16 the text is empty", x.count(11), 0);
         tells("16 c and passenger, barge", x, say(x, "c01").journey(), 1, 0, 45);
         is("16 c", x.barge(1, 6), 3);
         tells("16 c the other one", x, say(x, "c10c00").journey(), 2, 0, 45);

@@ -369,7 +369,8 @@ public final class EdgeLaterTest extends Checks {
         tells("30 all are THERE with nobody", full, full.seats(1), 2);
         BargesByBreath nowhere = world("......", "1-0;4+0", "10s;10a;11a", "b");
         tells("30 a sleeper can't leave for nowhere", nowhere, nowhere.seats(1), 1);
-        tells("31 a sleeper can't leave for nowhere", nowhere, nowhere.pairs(1), 1);
+        BargesByBreath two = world("......", "1-0;4+0", "20a;10s;10a;11a;20a", "l=1");
+        tells("31 a sleeper can't leave for nowhere", two, two.pairs(1), 1);
         BargesByBreath ballast = world("....", "0+0;2+0", "90a;91s;11a", "b");
         tells("30 a sleeper leaves", ballast, ballast.seats(1), 1, 0, 1);
         ballast.wakes(0);

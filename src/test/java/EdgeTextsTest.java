@@ -301,6 +301,7 @@ public final class EdgeTextsTest extends Checks {
     private static void bargesCome() {
         BargesByBreath x = beside();
         is("5 one more", say(x, "7-0").barges(), 1);
+        is("5 the text is empty", x.count(11), 0);
         is("5 nothing can be undone", x.undo(), -1);
         is("5 nothing is kept", x.again(0), false);
         is("5 nothing is kept", x.again(1), false);
@@ -378,6 +379,7 @@ public final class EdgeTextsTest extends Checks {
     private static void passengersCome() {
         BargesByBreath x = beside();
         is("6 two more", say(x, "10s;91a").passengers(), 2);
+        is("6 the text is empty", x.count(11), 0);
         is("6 LUNGS 1", x.passenger(2, 0), 1);
         is("6 LUNGS 9", x.passenger(3, 0), 9);
         is("6 BREATH at first LUNGS", x.passenger(2, 3), 1);
