@@ -449,6 +449,9 @@ public final class EdgeLaterTest extends Checks {
         tells("33 ahead, up: all", x, x.locks(0), 3, 4, 5);
         BargesByBreath end = world("111.", "3+0", "");
         tells("33 at its end", end, end.locks(0), 0, -1, 0);
+        BargesByBreath last = world(many("9", 28) + "..", "29+0;28-0", "");
+        tells("33 at the end of 30 CELLS", last, last.locks(0), 0, -1, 0);
+        tells("33 28 LOCKS down", last, last.locks(1), 28, 27, 9);
         BargesByBreath own = world(".1..", "0+0", "10a");
         own.hours(1);
         is("33 on a LOCK", own.barge(0, 0), 1);

@@ -173,6 +173,11 @@ public final class EdgeTextsTest extends Checks {
         isNone("4 no BARGES", () -> x.barge(0, 0));
         isNone("4 no PASSENGERS", () -> x.passenger(0, 0));
         is("4 all places are free again", say(x, "1+0;2+0;9+0").barges(), 3);
+        BargesByBreath shorter = world("....9999", "0+0", "");
+        tells("4 four LOCKS", shorter, shorter.locks(0), 4, 4, 9);
+        is("4 a shorter one", say(shorter, "....").canal(), 4);
+        is("4 a barge", say(shorter, "0+0").barges(), 1);
+        tells("4 no CELLS of the former one are left", shorter, shorter.locks(0), 0, -1, 0);
         String[] bad = {"", "...", "....x", "...0", many(".", 31)};
         int[] at = {0, 3, 4, 3, 30};
         for (int i = 0; i < bad.length; i++) {
