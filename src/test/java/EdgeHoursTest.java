@@ -98,6 +98,11 @@ public final class EdgeHoursTest extends Checks {
             is("9 the first, what " + what, x.passenger(0, what), first[what]);
         }
         isNone("9 a tenth", () -> x.passenger(9, 0));
+        // barge 0 stands at its end, so it is THERE after an HOUR
+        BargesByBreath met = world("....", "3+0;2+0", "51a", "m*3");
+        is("9 PUFF by m", met.passenger(0, 4), 3);
+        is("9 the barge that is met is THERE", met.hours(1), 1);
+        is("9 PUFF by m, of a barge that is THERE, too", met.passenger(0, 4), 3);
     }
 
     // ---- 10: sheet
@@ -207,7 +212,7 @@ public final class EdgeHoursTest extends Checks {
         z.fits();
         sameInAll("11 none: nothing changes", z, twin);
         BargesByBreath all = world("......", "4+0;1-0;5+0;0-0", "90a;91a");
-        tells("11 all four are THERE: two stood at their ends", all, all.hours(1), 2, 0, 0);
+        tells("11 two stood at their ends, the others stop behind them", all, all.hours(1), 2, 0, 0);
         is("11 the ends are taken", all.count(4), 0b1100);
         BargesByBreath nobody = new BargesByBreath();
         tells("11 without barges", nobody, nobody.hours(60), 0, 0, 0);
@@ -312,7 +317,7 @@ public final class EdgeHoursTest extends Checks {
         tells("11 to a BEND", bend, bend.hours(1), 0, 1, 1);
         is("11 to a BEND", bend.barge(1, 0), 3);
         BargesByBreath lock = world("....1...", "1+0;2-0", "90a", "b");
-        tells("11 not to a LOCK, though of less than its HOLD", lock, lock.hours(1), 0, 1, 1);
+        tells("11 to the CELL ahead of a LOCK, and no farther", lock, lock.hours(1), 0, 1, 1);
         is("11 not to a LOCK", lock.barge(1, 0), 3);
         BargesByBreath end = world("......", "2+0;3-0", "90a", "b");
         tells("11 to the last CELL", end, end.hours(1), 0, 2, 2);
@@ -349,6 +354,9 @@ public final class EdgeHoursTest extends Checks {
         stands("11 not of the same HEADING, down", "........", "6-0;5-0", "90a");
         stands("11 not to a LOCK", "...1....", "1+0;2-0", "90a");
         stands("11 not to a LOCK, down", "....9...", "6-0;5+0", "90a");
+        BargesByBreath held = world("...1....", "1+0;2-0", "90a;51a", "(l=9)*9");
+        is("11 HOLD of the one that is to be BLOWN BACK", held.barge(1, 5), 5);
+        tells("11 not to a LOCK, though of less than its HOLD", held, held.hours(1), 0, 0, 0);
         stands("11 not where a barge is", "........", "1+0;2-0;3-0", "90a");
         stands("11 not where a barge is of the same HEADING", "........", "1+0;2-0;3+0", "90a");
         BargesByBreath zero = world("........", "3-0;1+0;2-0", "91a");
